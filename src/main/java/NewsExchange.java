@@ -45,7 +45,7 @@ public final class NewsExchange {
     // ---- exchange
 
     public int append(int a, int b, int c, int d, int e) {
-        if (reader.filled > LONGEST_TEXT - BYTES_OF_APPEND) {
+        if (reader.bytesHeld > LONGEST_TEXT - BYTES_OF_APPEND) {
             return NONE;
         }
         reader.putFourBytes(a);
@@ -53,11 +53,11 @@ public final class NewsExchange {
         reader.putFourBytes(c);
         reader.putFourBytes(d);
         reader.putFourBytes(e);
-        return reader.filled;
+        return reader.bytesHeld;
     }
 
     public int parse(int length) throws IllegalArgumentException {
-        if (length < 0 || length > reader.filled) {
+        if (length < 0 || length > reader.bytesHeld) {
             throw new IllegalArgumentException("the buffer does not hold so many bytes");
         }
         int code = reader.readExchange(length);
@@ -832,10 +832,12 @@ public final class NewsExchange {
             return ((long) gain << GAIN_SHIFT) - ((long) cost << COST_SHIFT) - (1L << line);
         }
 
-        /** From the best sets of all groups of the persons before this one, those of the groups with this one. */
+        /**
+         * From the best sets of all groups of the persons before this one, those of the groups with
+         * this one. The group of nobody, at 0, always stays worth 0.
+         */
         private void admit(int person) {
             int groups = 1 << person;
-            worthOfGroup[0] = 0;
             for (int group = 0; group < groups; group++) {
                 worthOfGroup[groups + group] = worthOfGroup[group];
             }
@@ -967,22 +969,19 @@ public final class NewsExchange {
 
         /** Tries the calls of a person and of those behind it in a round. */
         private boolean pairUp(int made, int person, int taken, int alone) {
-            if (person >= people) {
+            int next = person;
+            while (next < people && isIn(taken, next)) {
+                next++;
+            }
+            if (next >= people) {
                 return canEnd(made + 1);
             }
-            if (isIn(taken, person)) {
-                return pairUp(made, person + 1, taken, alone);
-            }
-            for (int other = person + 1; other < people; other++) {
-                if (!isIn(taken, other) && tryPair(made, person, other, taken, alone)) {
+            for (int other = next + 1; other < people; other++) {
+                if (!isIn(taken, other) && tryPair(made, next, other, taken, alone)) {
                     return true;
                 }
             }
-            if (couldCall(made, person, alone)) {
-                return false;
-            }
-            after[made + 1].pieces[person] = after[made].pieces[person];
-            return pairUp(made, person + 1, taken, alone | 1 << person);
+            return tryAlone(made, next, taken, alone);
         }
 
         private boolean tryPair(int made, int person, int other, int taken, int alone) {
@@ -1002,6 +1001,15 @@ public final class NewsExchange {
             then[person] = mine | yours;
             then[other] = yours;
             return isIn(hears[made][person], other) && pairUp(made, person + 1, takenThen, alone);
+        }
+
+        /** Nobody stays alone beside somebody alone who could be called. */
+        private boolean tryAlone(int made, int person, int taken, int alone) {
+            if (couldCall(made, person, alone)) {
+                return false;
+            }
+            after[made + 1].pieces[person] = after[made].pieces[person];
+            return pairUp(made, person + 1, taken, alone | 1 << person);
         }
 
         private boolean couldCall(int made, int person, int others) {
@@ -1032,7 +1040,7 @@ public final class NewsExchange {
         private static final int INVALID = 4;
 
         private final byte[] text = new byte[LONGEST_TEXT];
-        private int filled = 0;
+        private int bytesHeld = 0;
         private Exchange draft = new Exchange();
         private int code = FINE;
         private int wrongAt = NONE;
@@ -1043,19 +1051,18 @@ public final class NewsExchange {
         private int number = 0;
 
         void putFourBytes(int four) {
-            for (int shift = 24; shift >= 0 && filled < LONGEST_TEXT; shift -= 8) {
-                text[filled] = (byte) (four >> shift);
-                filled++;
+            for (int shift = 24; shift >= 0 && bytesHeld < LONGEST_TEXT; shift -= 8) {
+                text[bytesHeld] = (byte) (four >> shift);
+                bytesHeld++;
             }
         }
 
         /** Empties the buffer; returns the error's code, FINE if there is none and the draft can be had. */
         int readExchange(int byteCount) {
-            length = Math.min(byteCount, filled);
-            filled = 0;
+            length = Math.min(byteCount, bytesHeld);
+            bytesHeld = 0;
             code = FINE;
             wrongAt = NONE;
-            start = 0;
             end = 0;
             draft.clear();
             for (int statements = 0; statements < LONGEST_TEXT; statements++) {

@@ -9,6 +9,7 @@ public final class ChangesTest {
         takeBack();
         arrangeBest();
         ring();
+        lastRound();
         cut();
         mend();
         tell();
@@ -98,6 +99,23 @@ public final class ChangesTest {
             y.ring();
         }
         CHECKS.due("500 rounds", y.size(2), 500);
+    }
+
+    /** More calls than the document promises anything about, but the limit of ring is told by it. */
+    private static void lastRound() {
+        NewsExchange x = Texts.exchange(SQUARE);
+        for (int round = 1; round <= 9999; round++) {
+            x.arrange(0);
+            x.ring();
+        }
+        CHECKS.due("rounds", x.size(2), 9999);
+        CHECKS.due("spent", x.spent(9999), 9999 * 3);
+        CHECKS.due("spent", x.spent(9998), 9998 * 3);
+        CHECKS.dueBadState("ring", x::ring);
+        CHECKS.due("rounds", x.size(2), 9999);
+        CHECKS.due("undo", x.undo(), 9);
+        CHECKS.due("spent", x.spent(9999), 9998 * 3);
+        CHECKS.due("ring", x.ring(), 0);
     }
 
     private static void cut() {

@@ -8,6 +8,7 @@ public final class TextTest {
         bytesOfAppend();
         parseLengths();
         parseReplaces();
+        nothingIsLeftOver();
         goodTexts();
         wrongTokens();
         latePeople();
@@ -110,11 +111,39 @@ public final class TextTest {
         CHECKS.due("rounds", x.size(2), 0);
         CHECKS.due("calls", x.size(3), 0);
         CHECKS.due("cut", x.size(5), 0);
+        CHECKS.due("arranged", x.arranged(), 0);
         CHECKS.due("spent", x.spent(9999), 0);
         CHECKS.due("missing", x.missing(), 6);
         CHECKS.due("no break of the old text", x.isUsable(0, 2), true);
         CHECKS.due("nobody away of the old text", x.isUsable(1, 4), true);
         CHECKS.due("no number of the old text", x.line(0, 6), 0);
+    }
+
+    /** Neither texts that were read before nor those that were wrong leave anything behind. */
+    private static void nothingIsLeftOver() {
+        NewsExchange x = new NewsExchange();
+        String full = "people 10;line 8 9 both 7;line 0 1 both 8;broken 0 1 9;away 0 1 9;";
+        for (int time = 1; time <= 4; time++) {
+            CHECKS.due("full text", Texts.parse(x, full), 0);
+            CHECKS.due("lines of it", x.size(1), 2);
+            CHECKS.due("broken of it", x.line(0, 6), 1);
+            for (int round = 1; round <= 9; round++) {
+                x.ring();
+            }
+            x.arrange(1);
+            CHECKS.due("arranged", x.arranged(), 2);
+            if (time % 2 == 0) {
+                CHECKS.due("wrong text", Texts.parse(x, full + "?"), 1);
+            }
+            CHECKS.due("plain text", Texts.parse(x, "line 0 1 both 5;"), 0);
+            CHECKS.due("people of it", x.size(0), 4);
+            CHECKS.due("lines of it", x.size(1), 1);
+            CHECKS.due("broken of it", x.line(0, 6), 0);
+            CHECKS.due("usable", x.isUsable(0, 1), true);
+            CHECKS.due("not arranged", x.arranged(), 0);
+            CHECKS.due("missing", x.missing(), 12);
+            CHECKS.due("known", x.known(0), 1);
+        }
     }
 
     private static void good(String text) {
@@ -150,6 +179,13 @@ public final class TextTest {
         wrong("peoples 4;", 1, 0);
         wrong("peoplesss 4;", 1, 0);
         wrong("peopl 4;", 1, 0);
+        wrong("xeople 4;", 1, 0);
+        wrong("peoplx 4;", 1, 0);
+        wrong("xine 0 1 both 5;", 1, 0);
+        wrong("line 0 1 xoth 5;", 1, 9);
+        wrong("line 0 1 xorth 5;", 1, 9);
+        wrong("line 0 1 both 5;xroken 0 1 1;", 1, 16);
+        wrong("xway 0 1 1;", 1, 0);
         wrong("abcdefgh;", 1, 0);
         wrong("abcdefghi;", 1, 0);
         wrong("people 00004;", 1, 7);
