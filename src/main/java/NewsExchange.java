@@ -441,7 +441,7 @@ public final class NewsExchange {
 
     /** What a text describes: no change touches it. Sets of lines and of persons are bits. */
     private static final class Exchange {
-        private static final int UNREACHED = Integer.MAX_VALUE;
+        private static final int UNREACHED = 1_000_000;
 
         private int people = USUAL_PEOPLE;
         private int lineCount = 0;
@@ -992,15 +992,15 @@ public final class NewsExchange {
             then[person] = mine | yours;
             then[other] = mine | yours;
             if (isIn(talks[made][person], other)) {
-                return pairUp(made, person + 1, takenThen, alone);
+                return goOn(made, person, other, takenThen, alone);
             }
             then[person] = mine;
-            if (isIn(hears[made][other], person) && pairUp(made, person + 1, takenThen, alone)) {
+            if (isIn(hears[made][other], person) && goOn(made, person, other, takenThen, alone)) {
                 return true;
             }
             then[person] = mine | yours;
             then[other] = yours;
-            return isIn(hears[made][person], other) && pairUp(made, person + 1, takenThen, alone);
+            return isIn(hears[made][person], other) && goOn(made, person, other, takenThen, alone);
         }
 
         /** Nobody stays alone beside somebody alone who could be called. */
@@ -1009,7 +1009,14 @@ public final class NewsExchange {
                 return false;
             }
             after[made + 1].pieces[person] = after[made].pieces[person];
-            return pairUp(made, person + 1, taken, alone | 1 << person);
+            return goOn(made, person, person, taken, alone | 1 << person);
+        }
+
+        /** Goes on behind two persons, or one alone, but for the last round only if they know everything. */
+        private boolean goOn(int made, int person, int other, int taken, int alone) {
+            int both = after[made + 1].pieces[person] & after[made + 1].pieces[other];
+            boolean enough = made + 1 < limit || both == (1 << people) - 1;
+            return enough && pairUp(made, person + 1, taken, alone);
         }
 
         private boolean couldCall(int made, int person, int others) {

@@ -53,6 +53,7 @@ public final class FaceTest {
     private static final String[] FORBIDDEN = {
         "\\bimport\\b", "\\bpackage\\b", "->", "::", "\\btry\\b", "\\bcatch\\b", "\\bfinally\\b", "\\bsynchronized\\b",
         "\\bassert\\b", "\\bSystem\\b", "\\bThread\\b", "Exact\\(", "\\bstatic\\s*\\{", "\\bprotected\\b", "\\bnative\\b",
+        "\\bMath\\.(?!max\\b|min\\b)", "\\bInteger\\.(?!bitCount\\b)", "\\bLong\\b", "\\bArrays\\b", "\\bdouble\\b", "\\bfloat\\b",
         "\\bhashCode\\b", "\\btoString\\b", "\"\\s*\\+", "\\+\\s*\"",
     };
 
