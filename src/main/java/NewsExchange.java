@@ -1012,7 +1012,7 @@ public final class NewsExchange {
             return goOn(made, person, person, taken, alone | 1 << person);
         }
 
-        /** Goes on behind two persons, or one alone, but for the last round only if they know everything. */
+        /** Goes on behind two persons, or one alone; what they do not know after the last round they never will. */
         private boolean goOn(int made, int person, int other, int taken, int alone) {
             int both = after[made + 1].pieces[person] & after[made + 1].pieces[other];
             boolean enough = made + 1 < limit || both == (1 << people) - 1;
