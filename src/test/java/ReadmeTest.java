@@ -101,7 +101,9 @@ public final class ReadmeTest {
         ByteArrayOutputStream printed = new ByteArrayOutputStream();
         PrintStream console = System.out;
         System.setOut(new PrintStream(printed, true));
-        try (URLClassLoader loader = new URLClassLoader(new URL[] {directory.toUri().toURL()})) {
+        // an Example.class that a reader of the page left beside the tests is not the one that is meant
+        URL[] places = {directory.toUri().toURL(), NewsExchange.class.getProtectionDomain().getCodeSource().getLocation()};
+        try (URLClassLoader loader = new URLClassLoader(places, ClassLoader.getPlatformClassLoader())) {
             loader.loadClass("Example").getMethod("main", String[].class).invoke(null, (Object) new String[0]);
         } finally {
             System.setOut(console);
